@@ -17,14 +17,17 @@ final class Check {
     /** The call throws just this exception and changes nothing that can be seen. */
     void refused(NeighbourDesk desk, String what, Class<?> due, Runnable call) {
         String before = look(desk);
-        Object got = "nothing";
+        same(what + " throws", thrown(call), due);
+        same(what + " leaves", look(desk), before);
+    }
+
+    static Object thrown(Runnable call) {
         try {
             call.run();
+            return "nothing";
         } catch (RuntimeException e) {
-            got = e.getClass();
+            return e.getClass();
         }
-        same(what + " throws", got, due);
-        same(what + " leaves", look(desk), before);
     }
 
     void end() {
@@ -62,6 +65,22 @@ final class Check {
             text.append(", ").append(entry(desk, desk.entry(i)));
         }
         return text.toString();
+    }
+
+    /** All that can be seen of a desk but its tape, for one of few entries and frames. */
+    static String whole(NeighbourDesk desk) {
+        StringBuilder text = new StringBuilder(look(desk));
+        for (int i = 0; i < desk.count(3); i++) {
+            int address = desk.entry(i);
+            text.append(", ").append(entry(desk, address));
+            for (int k = 0; k < desk.about(address, 1); k++) {
+                text.append(" then ").append(desk.waits(address, k));
+            }
+        }
+        for (int i = 0; i < Math.min(100, desk.count(4)); i++) {
+            text.append(", to ").append(desk.to(i)).append(" of ").append(desk.data(i));
+        }
+        return text.append(", lost ").append(losses(desk)).toString();
     }
 
     static String entry(NeighbourDesk desk, int address) {
