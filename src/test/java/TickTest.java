@@ -167,7 +167,8 @@ public final class TickTest {
         desk.send(Check.FRIEND, 2);
         CHECK.same("checked again", Check.last(desk), Check.dueRequest(11, Check.FRIEND));
         desk.tick(2);
-        CHECK.same("2 ticks behind", Check.entry(desk, Check.FRIEND), "a000002 kind 4 waiting 0 since 14 used 14 at 11");
+        CHECK.same("2 ticks behind", Check.entry(desk, Check.FRIEND),
+                "a000002 kind 4 waiting 0 since 14 used 14 at 11");
         desk.tick(1);
         CHECK.same("3 ticks behind", desk.knows(Check.FRIEND), false);
     }
